@@ -1666,9 +1666,11 @@ public final class SpiceSwaps {
 
         // Behind a fault nothing is taken any more: what is looked for then can't hide the first one.
         private void take(int wanted) {
-            if (!takeIfThere(wanted)) {
+            if (kind != wanted) {
                 fail(MISPLACED);
+                return;
             }
+            step();
         }
 
         private boolean takeIfThere(int wanted) {

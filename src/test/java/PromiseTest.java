@@ -36,6 +36,8 @@ public final class PromiseTest {
     asking();
     images();
     about();
+    toldAnew();
+    fullWorld();
     Due.end("PromiseTest");
   }
 
@@ -210,7 +212,7 @@ public final class PromiseTest {
       {"0", 0}, {"0007", 7}, {"(3)", 3}, {"7 - 2 - 1", 4}, {"7 - (2 - 1)", 6}, {"2 + 3 * 4", 14}, {"(2 + 3) * 4", 20},
       {"20 / 3", 6}, {"20 % 3", 2}, {"(0 - 20) / 3", -6}, {"(0 - 20) % 3", -2}, {"20 / 0", 0}, {"20 % 0", 0}, {"20 / 3 * 3", 18},
       {"24 / 4 % 4", 2}, {"24 % 9 / 2", 3}, {"1 < 2", 1}, {"2 < 2", 0}, {"2 > 2", 0}, {"3 > 2", 1}, {"2 = 2", 1}, {"1 + 1 = 2", 1},
-      {"not 0", 1}, {"not 5", 0}, {"not not 5", 1}, {"not 1 < 0", 1}, {"not 1 = 2 and 0", 0}, {"5 and 6", 1}, {"5 and 0", 0},
+      {"not 0", 1}, {"not 5", 0}, {"not not 5", 1}, {"not 1 < 0", 1}, {"not 1 = 2 and 0", 0}, {"5 and 6", 1}, {"1 and 1", 1}, {"0 and 1", 0}, {"5 and 0", 0},
       {"0 or 6", 1}, {"0 or 0", 0}, {"1 or 1 and 0", 1}, {"(1 or 1) and 0", 0}, {"0 and 1 or 1", 1}, {"5", 5}, {"(0 - 5) and 1", 1},
       {"9999 * 9999", 99999}, {"0 - 9999 * 9999", -99999}, {"99 * 1010 + 9", 99999}, {"99 * 1010 + 10", 99999}, {"99 * 1010", 99990},
       // Wrapping: 50000 * 50000 is above what an int holds, and 65536 squared is 0.
@@ -300,6 +302,9 @@ public final class PromiseTest {
     SpiceSwaps least = Due.told("court a gold 0;place p of a yield 50;grow 0 - 100;");
     least.year();
     due(14, "-9 at least", least.place(0, 1), 41);
+    SpiceSwaps most = Due.told("court a gold 0;place p of a yield 50;grow 100;");
+    most.year();
+    due(14, "9 at most", most.place(0, 1), 59);
     SpiceSwaps far = Due.told("court a gold 0;place p of a yield 1;");
     for (int i = 0; i < 999; i++) far.year();
     due(14, "year 999", far.about(3), 999);
@@ -322,6 +327,10 @@ public final class PromiseTest {
     SpiceSwaps y = Due.told(four + "storm 30 of 4;");
     y.year();
     due(14, "30 is not less than 30", y.about(5), 36);
+    SpiceSwaps edge = Due.told(four + "storm 81 of 4;");
+    edge.year();
+    edge.year();
+    due(14, "the rest of 181 by 100 is not less than 81", edge.about(5), 32);
     SpiceSwaps z = Due.told(four + "storm 100 of 99;");
     z.year();
     due(14, "0 at least", z.place(2, 1), 0);
@@ -511,6 +520,11 @@ public final class PromiseTest {
         + "believes a x 105;believes b w 105;believes b y 105;believes c w 100;believes c x 0;believes a y 0;");
     due(23, "of like ones", like.ring(), 10);
     lies(23, "the fewest courts", like, 0, 1, NONE);
+    // The ring of three gives u of a, the swap v of a: fewer courts count ahead of the first place.
+    SpiceSwaps later = Due.told("court a gold 0;court b gold 0;court c gold 0;place u of a yield 1;place v of a yield 1;place x of b yield 1;place y of c yield 1;worth belief;"
+        + "believes a u 100;believes a v 100;believes a x 105;believes b v 105;believes b u 0;believes b y 105;believes c u 100;believes c v 0;believes c x 0;believes a y 0;");
+    due(23, "of like ones again", later.ring(), 10);
+    lies(23, "the fewest courts, if not the first", later, 1, 2, NONE);
     due(23, "no courts", new SpiceSwaps().ring(), GAP);
   }
 
@@ -850,5 +864,93 @@ public final class PromiseTest {
     due(46, "about(13)", x.about(13), NONE);
     due(46, "about(-1)", x.about(-1), NONE);
     due(46, "about of a low number", x.about(Integer.MIN_VALUE), NONE);
+  }
+
+  /** What one world told must not be found in another that is told later by the same object. */
+  private static void toldAnew() {
+    SpiceSwaps x = new SpiceSwaps();
+    String plain = "court a gold 1;place p of a yield 50;place q of a yield 50;";
+    String[] texts = {plain + "believes a p 7;worth 3;grow 5;storm 100 of 9;draw 8;", plain, plain + "worth yield;", plain, plain};
+    int[] worths = {3, 50, 50, 50, 50};
+    for (int round = 0; round < 2; round++) {
+      for (int i = 0; i < texts.length; i++) {
+        Due.tape(x, texts[i]);
+        due(4, "world " + i, x.world(), 2);
+        due(4, "belief in world " + i, x.belief(0, 0), i == 0 ? 7 : 100);
+        due(4, "worth in world " + i, x.worth(0, 0), worths[i]);
+        due(4, "units in world " + i, x.about(11), i == 0 ? 2 : i == 2 ? 1 : 0);
+        due(4, "the seed in world " + i, x.about(4), i == 0 ? 8 : 0);
+        due(4, "odds in world " + i, x.odds(1, 1), i == 0 ? 2 : 1);
+        x.year();
+        due(4, "yields in world " + i, x.about(5), i == 0 ? 101 : 100);
+      }
+    }
+    // A world that is refused half way leaves nothing of itself to the next one.
+    Due.tape(x, "court a gold 9;worth 1;grow 2;storm 50 of 5;draw 1;draw");
+    due(4, "refused", x.world(), NONE);
+    Due.tape(x, plain);
+    due(4, "told", x.world(), 2);
+    due(4, "units", x.about(11), 0);
+    due(4, "gold", x.court(0, 0), 1);
+  }
+
+  /** As much of all as there can be. */
+  private static void fullWorld() {
+    StringBuilder text = new StringBuilder();
+    for (int c = 0; c < 4; c++) text.append("court ").append((char) ('a' + c)).append(" gold 999;");
+    for (int k = 0; k < 3; k++) text.append("crop ").append((char) ('a' + k)).append(" price 9;");
+    for (int p = 0; p < 7; p++) text.append("place ").append((char) ('a' + p)).append(" of ").append((char) ('a' + p % 4)).append(" yield 99").append(p < 6 ? " grows " + (char) ('a' + p % 3) : "").append(p == 6 ? " harbour" : "").append(";");
+    for (int c = 0; c < 4; c++) for (int p = 0; p < 7; p++) text.append("believes ").append((char) ('a' + c)).append(' ').append((char) ('a' + p)).append(c == p % 4 ? " 200;" : " 199;");
+    text.append("storm 100 of 99;draw 999;worth belief;");
+    SpiceSwaps x = Due.told(text.toString());
+    due(46, "places", x.about(0), 7);
+    due(46, "courts", x.about(1), 4);
+    due(46, "crops", x.about(2), 3);
+    due(46, "yields", x.about(5), 693);
+    due(8, "growers of a", x.crop(0, 1), 9);
+    due(8, "places of c", x.crop(2, 2), 36);
+    // Crop a at a and d, b at b and a, c at c and b: each place earns 891 / 2, the last one 99.
+    for (int p = 0; p < 6; p++) due(6, "EARNED of " + p, x.place(p, 5), 445);
+    due(6, "EARNED of the last", x.place(6, 5), 99);
+    due(7, "all of a", x.court(0, 1), 17);
+    due(7, "worths of c", x.court(2, 3), 400);
+    due(18, "none is better", x.best(0), GAP);
+    due(19, "no swaps", x.swaps(), 0);
+    due(20, "no haggling", x.haggle(), 0);
+    lies(20, "no haggling", x, 0, 1, 2, 3, 0, 1, 2);
+    due(23, "no ring", x.ring(), GAP);
+    due(24, "dear", x.dear(), 1400);
+    lies(24, "dear", x, 0, 1, 2, 3, 0, 1, 2);
+    due(25, "misheld", x.misheld(), 0);
+    due(26, "divide: the lesser part", x.divide(0, 3, 127, 0), 599);
+    due(26, "divide: both", x.divide(0, 3, 127, 1), 1396);
+    due(26, "divide: the least set", x.divide(0, 3, 127, 2), 1 + 2 + 16);
+    due(26, "beyond all places", x.divide(0, 3, 128, 2), GAP);
+    due(27, "lots of a", x.lots(0, 3, 199, 2), 1);
+    due(28, "seeds of c for c", x.seeds(2, 2, 0), 6);
+    due(28, "how much more", x.seeds(2, 2, 1), 445 - 99);
+    due(29, "a to the last", x.leak(0, 6), 2 * (445 - 297));
+    due(22, "ports", x.ports(2), 1);
+    due(21, "envies", x.envies(3), 7);
+    due(42, "all fit", x.fits(0), 127);
+    due(43, "ask", x.ask(0, 0), 1);
+    due(43, "two are left", x.ask(1, 0), 2);
+    // 999 -> 934, which hits 934 % 7 = 3.
+    due(14, "all EARNED", x.year(), 6 * 445 + 99);
+    due(14, "hit", x.place(3, 1), 0);
+    due(33, "the richest", x.richest(0), 0);
+    due(15, "undo", x.undo(), true);
+    due(6, "back", x.place(3, 1), 99);
+    due(13, "carried", x.carry(2, 6), 2);
+    due(12, "the last one ceded", x.cede(6, 3), 2);
+    due(11, "the last one swapped", x.swap(6, 0), true);
+    due(44, "kept", x.image(2), 0);
+    due(45, "and back", x.back(2), 0);
+    due(6, "who holds the last", x.place(6, 0), 0);
+    SpiceSwaps first = Due.told("court a gold 0;court b gold 0;crop n price 5;place p of a yield 3;place q of a yield 2;place r of a yield 1 grows n;place s of b yield 1;");
+    due(28, "the first place", first.seeds(0, 0, 0), 0);
+    due(28, "and what it gains", first.seeds(0, 0, 1), 12);
+    due(27, "the first place alone", first.lots(0, 1, 3, 2), 1);
+    due(27, "all of them", first.lots(0, 1, 6, 2), 7);
   }
 }
