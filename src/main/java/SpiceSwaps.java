@@ -35,9 +35,9 @@ public final class SpiceSwaps {
 
     public SpiceSwaps() {
         tape = new Tape();
-        reader = new Reader();
         told = new Told();
         spare = new Told();
+        reader = new Reader(tape, spare);
         now = new Moment(told);
         ahead = new Moment(told);
         history = new History();
@@ -68,7 +68,7 @@ public final class SpiceSwaps {
     }
 
     public int world() {
-        if (!reader.read(tape, spare)) {
+        if (!reader.read(spare)) {
             return NONE;
         }
         Told read = spare;
@@ -1406,7 +1406,8 @@ public final class SpiceSwaps {
         private final long[] courtNames;
         private final long[] cropNames;
         private final long[] placeNames;
-        private byte[] bytes;
+        private final Tape tape;
+        private final byte[] bytes;
         private int end;
         private Told into;
         private Formula formula;
@@ -1418,7 +1419,11 @@ public final class SpiceSwaps {
         int fault;
         int faultAt;
 
-        Reader() {
+        Reader(Tape text, Told facts) {
+            tape = text;
+            bytes = text.bytes;
+            into = facts;
+            formula = facts.worthBy;
             words = packAll(WORDS);
             courtNames = new long[MOST_COURTS];
             cropNames = new long[MOST_CROPS];
@@ -1427,8 +1432,7 @@ public final class SpiceSwaps {
         }
 
         /** Whether the text is a world; what it tells is put into the row of facts. */
-        boolean read(Tape tape, Told facts) {
-            bytes = tape.bytes;
+        boolean read(Told facts) {
             end = Math.min(tape.size, bytes.length);
             into = facts;
             into.forget();

@@ -27,6 +27,7 @@ public final class FaultTest {
     limits();
     formulas();
     nesting();
+    cutShort();
     Due.end("FaultTest");
   }
 
@@ -53,6 +54,7 @@ public final class FaultTest {
     fault("court c gold 00001;", 1, 13);
     fault("court c gold 1a;", 1, 13);
     fault("court c gold 1gold;", 1, 13);
+    fault("court c gold 1z;", 1, 13);
     fault(P + "worth 3or 4;", 1, 42);
     fine(P + "worth 3 or 4;");
     fine(P + "worth yield*2+belief/3%4-(held);");
@@ -200,5 +202,24 @@ public final class FaultTest {
     fault("worth " + "(not ".repeat(4) + "1" + ")".repeat(4) + ";", 2, 6 + 16);
     // Beside one another they are not within one another.
     fine("worth " + "((((((1)))))) + ".repeat(3) + "((((((1))))));");
+  }
+
+  /** What stood on the tape behind the text's end is not read. */
+  private static void cutShort() {
+    cut("court c gold 1;court cd gold 2;", 22, 3, 21);
+    cut("court c gold 12345;", 15, 2, 15);
+    cut("court c gold 1999;", 15, 2, 15);
+    cut("worth 1or 2;", 7, 2, 7);
+    cut("court c gold 1;", 14, 2, 14);
+    cut("court c gold 1;#", 15, 0, -1);
+  }
+
+  private static void cut(String text, int length, int code, int place) {
+    SpiceSwaps x = new SpiceSwaps();
+    Due.tape(x, text);
+    x.end(length);
+    x.world();
+    Due.due(5, "fault(0) of \"" + text + "\" cut to " + length, x.fault(0), code);
+    Due.due(5, "fault(1) of \"" + text + "\" cut to " + length, x.fault(1), place);
   }
 }

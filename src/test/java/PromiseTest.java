@@ -425,6 +425,10 @@ public final class PromiseTest {
     due(18, "best(-1)", x.best(-1), GAP);
     due(19, "swaps()", x.swaps(), 1);
     due(18, "nothing is done", x.about(6), 0);
+    due(19, "swaps() as the first call", Due.told(A).swaps(), 1);
+    x.swap(2, 3);
+    due(19, "swaps() as it is then", x.swaps(), 0);
+    due(18, "best(0) as it is then", x.best(0), GAP);
     // All alike: each of the swaps gains 0, the first is taken.
     SpiceSwaps y = Due.told("court a gold 0;court b gold 0;place p of a yield 5;place q of a yield 5;place r of b yield 5;place s of b yield 5;");
     due(18, "best(0) of 0", y.best(0), 0);
@@ -541,6 +545,7 @@ public final class PromiseTest {
     due(24, "held as it is now", held.dear(), 4);
     lies(24, "held as it is now", held, 0, 0);
     due(25, "none", held.misheld(), 0);
+    due(25, "misheld as the first call", Due.told(A).misheld(), 6);
     SpiceSwaps none = new SpiceSwaps();
     due(24, "no places", none.dear(), 0);
     due(25, "no places", none.misheld(), 0);
@@ -870,8 +875,8 @@ public final class PromiseTest {
   private static void toldAnew() {
     SpiceSwaps x = new SpiceSwaps();
     String plain = "court a gold 1;place p of a yield 50;place q of a yield 50;";
-    String[] texts = {plain + "believes a p 7;worth 3;grow 5;storm 100 of 9;draw 8;", plain, plain + "worth yield;", plain, plain};
-    int[] worths = {3, 50, 50, 50, 50};
+    String[] texts = {plain + "believes a p 7;worth 3;grow 5;storm 100 of 9;draw 8;", plain, plain + "worth yield;", plain, plain, plain};
+    int[] worths = {3, 50, 50, 50, 50, 50};
     for (int round = 0; round < 2; round++) {
       for (int i = 0; i < texts.length; i++) {
         Due.tape(x, texts[i]);
