@@ -2,11 +2,13 @@
 final class Due {
   private static int wrong = 0;
   private static int asked = 0;
+  private static final int[] ASKED_OF = new int[47];
 
   private Due() { }
 
   static void due(int promise, String what, long got, long want) {
     asked++;
+    ASKED_OF[promise]++;
     if (got != want) {
       wrong++;
       System.out.println("promise " + promise + ": " + what + " answered " + got + ", due is " + want);
@@ -15,6 +17,10 @@ final class Due {
 
   static void due(int promise, String what, boolean got, boolean want) {
     due(promise, what, got ? 1L : 0L, want ? 1L : 0L);
+  }
+
+  static int looked(int promise) {
+    return ASKED_OF[promise];
   }
 
   /** Puts a text on the tape, in place of what stood there. */

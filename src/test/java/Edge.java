@@ -19,6 +19,8 @@ final class Edge {
 
   interface Call { long on(SpiceSwaps x); }
 
+  interface IndexedCall { long on(SpiceSwaps x, int i); }
+
   private interface View { void of(SpiceSwaps x, Seen seen); }
 
   private static String document;
@@ -107,6 +109,8 @@ final class Edge {
     x.world();
     return x;
   }
+
+  static final Made[] ALL = {Edge::empty, Edge::busy, Edge::full, Edge::faulted};
 
   // ---- whether all is as it was
 
@@ -199,8 +203,28 @@ final class Edge {
     due(promise, what + " does nothing", 1, 1);
   }
 
+  /** The call with each number that can't be, where there are so many of a sort (as about numbers it), in every object. */
+  static void beyond(int promise, String what, int sort, IndexedCall call, long answer) {
+    for (Made made : ALL) {
+      for (int i : outside(made.make().about(sort))) refused(promise, what + " of " + i, made, x -> call.on(x, i), answer);
+    }
+  }
+
+  /** The call with each number that can't be, where 0 and those up to a bound can. */
+  static void from(int bound, int promise, String what, IndexedCall call, long answer) {
+    for (Made made : ALL) {
+      for (int i : outside(bound)) refused(promise, what + " of " + i, made, x -> call.on(x, i), answer);
+    }
+  }
+
   /** Numbers that can't be where there are so many: those next to the first and the last one, and the farthest. */
-  static int[] beyond(int count) {
+  static int[] outside(int count) {
     return new int[] {-1, count, count + 1, -2, LOW, HIGH, LOW + 1, HIGH - 1, 1 << 16, LOW + count, count + 256, -count - 1};
+  }
+
+  /** To be called last: each of these promises had a test. */
+  static void end(String name, int first, int last) {
+    for (int promise = first; promise <= last; promise++) Due.due(promise, "looked at by " + name, Due.looked(promise) > 0, true);
+    Due.end(name);
   }
 }

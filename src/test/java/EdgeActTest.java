@@ -2,7 +2,6 @@
 public final class EdgeActTest {
   private static final int NONE = Edge.NONE;
   private static final int GAP = Edge.GAP;
-  private static final Edge.Made[] ALL = {Edge::empty, Edge::busy, Edge::full, Edge::faulted};
   private static final String C = "court c gold 0;";
   private static final String TWO = "court a gold 0;court b gold 0;";
 
@@ -40,21 +39,8 @@ public final class EdgeActTest {
     redoTillAnotherAct();
     fortyAreKept();
     fortyRound();
-    Due.end("EdgeActTest");
+    Edge.end("EdgeActTest", 6, 16);
   }
-
-  private static int count(SpiceSwaps x, int sort) {
-    return x.about(sort);
-  }
-
-  /** Each of the numbers that can't be, as refused by every object. */
-  private static void beyond(int promise, String what, int sort, IndexedCall call, long answer) {
-    for (Edge.Made made : ALL) {
-      for (int i : Edge.beyond(count(made.make(), sort))) Edge.refused(promise, what + " of " + i, made, x -> call.on(x, i), answer);
-    }
-  }
-
-  private interface IndexedCall { long on(SpiceSwaps x, int i); }
 
   // ---- what is so
 
@@ -208,10 +194,10 @@ public final class EdgeActTest {
 
   private static void placeAsked() {
     Edge.sentence("5: EARNED next year; GAP if there is none such, or for another what.");
-    beyond(6, "place", 0, (x, i) -> x.place(i, 0), GAP);
-    beyond(6, "EARNED of place", 0, (x, i) -> x.place(i, 5), GAP);
-    for (Edge.Made made : ALL) {
-      for (int what : Edge.beyond(6)) Edge.refused(6, "place(0, " + what + ")", made, x -> x.place(0, what), GAP);
+    Edge.beyond(6, "place", 0, (x, i) -> x.place(i, 0), GAP);
+    Edge.beyond(6, "EARNED of place", 0, (x, i) -> x.place(i, 5), GAP);
+    for (Edge.Made made : Edge.ALL) {
+      for (int what : Edge.outside(6)) Edge.refused(6, "place(0, " + what + ")", made, x -> x.place(0, what), GAP);
       for (int what = 0; what < 6; what++) {
         int w = what;
         Edge.changesOnly(6, "place(0, " + w + ")", made, x -> x.place(0, w));
@@ -233,10 +219,10 @@ public final class EdgeActTest {
     Edge.sentence("3: WORTHS of these to it, together; GAP if there is none such, or for another what.");
     for (int w = 0; w < 4; w++) {
       int what = w;
-      beyond(7, "court, what " + what, 1, (x, i) -> x.court(i, what), GAP);
+      Edge.beyond(7, "court, what " + what, 1, (x, i) -> x.court(i, what), GAP);
     }
-    for (Edge.Made made : ALL) {
-      for (int what : Edge.beyond(4)) Edge.refused(7, "court(0, " + what + ")", made, x -> x.court(0, what), GAP);
+    for (Edge.Made made : Edge.ALL) {
+      for (int what : Edge.outside(4)) Edge.refused(7, "court(0, " + what + ")", made, x -> x.court(0, what), GAP);
       for (int what = 0; what < 4; what++) {
         int w = what;
         Edge.changesOnly(7, "court(0, " + w + ")", made, x -> x.court(0, w));
@@ -251,10 +237,10 @@ public final class EdgeActTest {
     Edge.sentence("2: PLACES that do, both as bits; NONE if there is none such, or for another what.");
     for (int w = 0; w < 3; w++) {
       int what = w;
-      beyond(8, "crop, what " + what, 2, (x, i) -> x.crop(i, what), NONE);
+      Edge.beyond(8, "crop, what " + what, 2, (x, i) -> x.crop(i, what), NONE);
     }
-    for (Edge.Made made : ALL) {
-      for (int what : Edge.beyond(3)) Edge.refused(8, "crop(0, " + what + ")", made, x -> x.crop(0, what), NONE);
+    for (Edge.Made made : Edge.ALL) {
+      for (int what : Edge.outside(3)) Edge.refused(8, "crop(0, " + what + ")", made, x -> x.crop(0, what), NONE);
       for (int what = 0; what < 3; what++) {
         int w = what;
         Edge.changesOnly(8, "crop(0, " + w + ")", made, x -> x.crop(0, w));
@@ -267,9 +253,9 @@ public final class EdgeActTest {
 
   private static void beliefAsked() {
     Edge.sentence("What a COURT believes of a PLACE; NONE if one can't be.");
-    beyond(9, "belief, court", 1, (x, i) -> x.belief(i, 0), NONE);
-    beyond(9, "belief, place", 0, (x, i) -> x.belief(0, i), NONE);
-    beyond(9, "belief, both", 0, (x, i) -> x.belief(i, i), NONE);
+    Edge.beyond(9, "belief, court", 1, (x, i) -> x.belief(i, 0), NONE);
+    Edge.beyond(9, "belief, place", 0, (x, i) -> x.belief(0, i), NONE);
+    Edge.beyond(9, "belief, both", 0, (x, i) -> x.belief(i, i), NONE);
     SpiceSwaps x = Due.told(Edge.FULL);
     Edge.due(9, "the first of the first", x.belief(0, 0), 100);
     Edge.due(9, "the last of the last", x.belief(3, 6), 150);
@@ -279,9 +265,9 @@ public final class EdgeActTest {
 
   private static void worthAsked() {
     Edge.sentence("WORTH; GAP if one can't be.");
-    beyond(10, "worth, court", 1, (x, i) -> x.worth(i, 0), GAP);
-    beyond(10, "worth, place", 0, (x, i) -> x.worth(0, i), GAP);
-    beyond(10, "worth, both", 0, (x, i) -> x.worth(i, i), GAP);
+    Edge.beyond(10, "worth, court", 1, (x, i) -> x.worth(i, 0), GAP);
+    Edge.beyond(10, "worth, place", 0, (x, i) -> x.worth(0, i), GAP);
+    Edge.beyond(10, "worth, both", 0, (x, i) -> x.worth(i, i), GAP);
     SpiceSwaps x = Due.told(Edge.FULL);
     Edge.due(10, "the last of the last", x.worth(3, 6), 150 * 10 % 97);
     Edge.due(10, "the first of the first", x.worth(0, 0), 100 * 100 % 97);
@@ -414,10 +400,10 @@ public final class EdgeActTest {
 
   private static void swapRefused() {
     Edge.sentence("Two PLACES are swapped: true; false, doing nothing, if one COURT holds both, or one can't be.");
-    beyond(11, "swap, the first", 0, (x, i) -> Edge.bit(x.swap(i, 0)), 0);
-    beyond(11, "swap, the other", 0, (x, i) -> Edge.bit(x.swap(0, i)), 0);
-    beyond(11, "swap, both", 0, (x, i) -> Edge.bit(x.swap(i, i)), 0);
-    for (Edge.Made made : ALL) {
+    Edge.beyond(11, "swap, the first", 0, (x, i) -> Edge.bit(x.swap(i, 0)), 0);
+    Edge.beyond(11, "swap, the other", 0, (x, i) -> Edge.bit(x.swap(0, i)), 0);
+    Edge.beyond(11, "swap, both", 0, (x, i) -> Edge.bit(x.swap(i, i)), 0);
+    for (Edge.Made made : Edge.ALL) {
       int places = made.make().about(0);
       for (int p = 0; p < places; p++) {
         for (int q = 0; q < places; q++) {
@@ -440,11 +426,11 @@ public final class EdgeActTest {
 
   private static void cedeRefused() {
     Edge.sentence("A PLACE is ceded: which COURT held it; NONE, doing nothing, if it is the same, or one can't be.");
-    beyond(12, "cede, place", 0, (x, i) -> x.cede(i, 0), NONE);
-    beyond(12, "cede, place", 0, (x, i) -> x.cede(i, 1), NONE);
-    beyond(12, "cede, court", 1, (x, i) -> x.cede(0, i), NONE);
-    beyond(12, "cede, both", 0, (x, i) -> x.cede(i, i), NONE);
-    for (Edge.Made made : ALL) {
+    Edge.beyond(12, "cede, place", 0, (x, i) -> x.cede(i, 0), NONE);
+    Edge.beyond(12, "cede, place", 0, (x, i) -> x.cede(i, 1), NONE);
+    Edge.beyond(12, "cede, court", 1, (x, i) -> x.cede(0, i), NONE);
+    Edge.beyond(12, "cede, both", 0, (x, i) -> x.cede(i, i), NONE);
+    for (Edge.Made made : Edge.ALL) {
       int places = made.make().about(0);
       int courts = made.make().about(1);
       for (int p = 0; p < places; p++) {
@@ -466,13 +452,13 @@ public final class EdgeActTest {
 
   private static void carryRefused() {
     Edge.sentence("A CROP is carried to a PLACE: how many COURTS grow it then; NONE, doing nothing, if it can't be, or one can't be.");
-    beyond(13, "carry, crop", 2, (x, i) -> x.carry(i, 2), NONE);
-    beyond(13, "carry, place", 0, (x, i) -> x.carry(0, i), NONE);
-    beyond(13, "carry, both", 0, (x, i) -> x.carry(i, i), NONE);
+    Edge.beyond(13, "carry, crop", 2, (x, i) -> x.carry(i, 2), NONE);
+    Edge.beyond(13, "carry, place", 0, (x, i) -> x.carry(0, i), NONE);
+    Edge.beyond(13, "carry, both", 0, (x, i) -> x.carry(i, i), NONE);
     Edge.sentence("a CROP is carried to a PLACE that grows none, if the COURT that holds it holds one that grows that CROP;");
     int refused = 0;
     int done = 0;
-    for (Edge.Made made : ALL) {
+    for (Edge.Made made : Edge.ALL) {
       int places = made.make().about(0);
       int crops = made.make().about(2);
       for (int k = 0; k < crops; k++) {

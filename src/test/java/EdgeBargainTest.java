@@ -2,10 +2,7 @@
 public final class EdgeBargainTest {
   private static final int NONE = Edge.NONE;
   private static final int GAP = Edge.GAP;
-  private static final Edge.Made[] ALL = {Edge::empty, Edge::busy, Edge::full, Edge::faulted};
   private static final String TWO = "court a gold 0;court b gold 0;";
-
-  private interface IndexedCall { long on(SpiceSwaps x, int i); }
 
   public static void main(String[] args) {
     nothingIsDone();
@@ -45,19 +42,7 @@ public final class EdgeBargainTest {
     richestYears();
     oddsAsked();
     oddsLowest();
-    Due.end("EdgeBargainTest");
-  }
-
-  private static void beyond(int promise, String what, int sort, IndexedCall call, long answer) {
-    for (Edge.Made made : ALL) {
-      for (int i : Edge.beyond(made.make().about(sort))) Edge.refused(promise, what + " of " + i, made, x -> call.on(x, i), answer);
-    }
-  }
-
-  private static void fixed(int promise, String what, int count, IndexedCall call, long answer) {
-    for (Edge.Made made : ALL) {
-      for (int i : Edge.beyond(count)) Edge.refused(promise, what + " of " + i, made, x -> call.on(x, i), answer);
-    }
+    Edge.end("EdgeBargainTest", 17, 34);
   }
 
   private static void lies(int promise, String what, SpiceSwaps x, int... want) {
@@ -85,7 +70,7 @@ public final class EdgeBargainTest {
 
   private static void nothingIsDone() {
     Edge.sentence("(By what is now; nothing is done; held as it is now.)");
-    for (Edge.Made made : ALL) {
+    for (Edge.Made made : Edge.ALL) {
       for (int i = 0; i < 3; i++) {
         int n = i;
         Edge.changesOnly(17, "gain", made, x -> x.gain(n, n + 1));
@@ -114,9 +99,9 @@ public final class EdgeBargainTest {
 
   private static void gainAsked() {
     Edge.sentence("if it were swapped for another one; GAP if one COURT holds both, or one can't be.");
-    beyond(17, "gain, the first", 0, (x, i) -> x.gain(i, 0), GAP);
-    beyond(17, "gain, the other", 0, (x, i) -> x.gain(0, i), GAP);
-    beyond(17, "gain, both", 0, (x, i) -> x.gain(i, i), GAP);
+    Edge.beyond(17, "gain, the first", 0, (x, i) -> x.gain(i, 0), GAP);
+    Edge.beyond(17, "gain, the other", 0, (x, i) -> x.gain(0, i), GAP);
+    Edge.beyond(17, "gain, both", 0, (x, i) -> x.gain(i, i), GAP);
     for (Edge.Made made : new Edge.Made[] {Edge::busy, Edge::full}) {
       SpiceSwaps x = made.make();
       for (int p = 0; p < x.about(0); p++) {
@@ -141,9 +126,9 @@ public final class EdgeBargainTest {
 
   private static void bestAsked() {
     Edge.sentence("1: the lower PLACE, 2: the other one; GAP if there is none, or for another what.");
-    fixed(18, "best", 3, (x, i) -> x.best(i), GAP);
+    Edge.from(3, 18, "best", (x, i) -> x.best(i), GAP);
     SpiceSwaps there = table("ab", row(0, 1), row(1, 0));
-    for (int what : Edge.beyond(3)) Edge.due(18, "best(" + what + ") where there is one", there.best(what), GAP);
+    for (int what : Edge.outside(3)) Edge.due(18, "best(" + what + ") where there is one", there.best(what), GAP);
     int[] due = {2, 0, 1};
     for (int w = 0; w < 3; w++) Edge.due(18, "best(" + w + ")", there.best(w), due[w]);
     SpiceSwaps[] none = {new SpiceSwaps(), Due.told("court a gold 0;"), table("a", row(5)), table("aaaaaaa", row(1, 2, 3, 4, 5, 6, 7), row(7, 6, 5, 4, 3, 2, 1)), table("ab", row(0, 0), row(0, 1))};
@@ -263,7 +248,7 @@ public final class EdgeBargainTest {
 
   private static void enviesMore() {
     Edge.sentence("COURTS whose PLACES together are WORTH more to a COURT than its own together, as bits; NONE if there is none such.");
-    beyond(21, "envies", 1, (x, i) -> x.envies(i), NONE);
+    Edge.beyond(21, "envies", 1, (x, i) -> x.envies(i), NONE);
     Edge.due(21, "as much", table("ab", row(5, 5), row(0, 0)).envies(0), 0);
     Edge.due(21, "1 more", table("ab", row(5, 6), row(0, 0)).envies(0), 2);
     Edge.due(21, "1 less", table("ab", row(5, 4), row(0, 0)).envies(0), 0);
@@ -279,7 +264,7 @@ public final class EdgeBargainTest {
 
   private static void portsHeld() {
     Edge.sentence("How many harbours a COURT holds; NONE if there is none such.");
-    beyond(22, "ports", 1, (x, i) -> x.ports(i), NONE);
+    Edge.beyond(22, "ports", 1, (x, i) -> x.ports(i), NONE);
     StringBuilder text = new StringBuilder(TWO);
     for (int p = 0; p < 7; p++) text.append("place ").append((char) ('p' + p)).append(" of a yield 1 harbour;");
     SpiceSwaps x = Due.told(text.toString());
@@ -462,17 +447,17 @@ public final class EdgeBargainTest {
 
   private static void divideAsked() {
     Edge.sentence("2: the first one's part, as bits; GAP if both are one, or one can't be.");
-    beyond(26, "divide, the first", 1, (x, i) -> x.divide(i, 0, 1, 0), GAP);
-    beyond(26, "divide, the other", 1, (x, i) -> x.divide(0, i, 1, 0), GAP);
+    Edge.beyond(26, "divide, the first", 1, (x, i) -> x.divide(i, 0, 1, 0), GAP);
+    Edge.beyond(26, "divide, the other", 1, (x, i) -> x.divide(0, i, 1, 0), GAP);
     for (int w = 0; w < 3; w++) {
       int what = w;
       for (int c = 0; c < 4; c++) {
         int court = c;
-        for (Edge.Made made : ALL) Edge.refused(26, "divide(" + c + ", " + c + ")", made, x -> x.divide(court, court, 1, what), GAP);
+        for (Edge.Made made : Edge.ALL) Edge.refused(26, "divide(" + c + ", " + c + ")", made, x -> x.divide(court, court, 1, what), GAP);
       }
     }
-    fixed(26, "divide, what", 3, (x, i) -> x.divide(0, 1, 1, i), GAP);
-    for (Edge.Made made : ALL) {
+    Edge.from(3, 26, "divide, what", (x, i) -> x.divide(0, 1, 1, i), GAP);
+    for (Edge.Made made : Edge.ALL) {
       int sets = 1 << made.make().about(0);
       for (int set : new int[] {-1, sets, sets + 1, sets | 1, Edge.LOW, Edge.HIGH, Edge.LOW | 1, 1 << 30, 1 << 8}) {
         Edge.refused(26, "divide, set " + set, made, x -> x.divide(0, 1, set, 0), GAP);
@@ -524,10 +509,10 @@ public final class EdgeBargainTest {
 
   private static void lotsAsked() {
     Edge.sentence("LOTS what 0: how many, 1: WORTH of these to the first one, 2: which, as bits; GAP if no set is enough, both are one, or one can't be.");
-    beyond(27, "lots, the first", 1, (x, i) -> x.lots(i, 0, 0, 0), GAP);
-    beyond(27, "lots, the other", 1, (x, i) -> x.lots(0, i, 0, 0), GAP);
-    fixed(27, "lots, what", 3, (x, i) -> x.lots(0, 1, 0, i), GAP);
-    for (Edge.Made made : ALL) {
+    Edge.beyond(27, "lots, the first", 1, (x, i) -> x.lots(i, 0, 0, 0), GAP);
+    Edge.beyond(27, "lots, the other", 1, (x, i) -> x.lots(0, i, 0, 0), GAP);
+    Edge.from(3, 27, "lots, what", (x, i) -> x.lots(0, 1, 0, i), GAP);
+    for (Edge.Made made : Edge.ALL) {
       for (int c = 0; c < 4; c++) {
         int court = c;
         Edge.refused(27, "lots(" + c + ", " + c + ")", made, x -> x.lots(court, court, 0, 0), GAP);
@@ -601,10 +586,10 @@ public final class EdgeBargainTest {
 
   private static void seedsAsked() {
     Edge.sentence("CARRY what 0: the PLACE, 1: how much more; GAP if the COURT does not grow it, there is no PLACE for it, or one can't be.");
-    beyond(28, "seeds, court", 1, (x, i) -> x.seeds(i, 0, 0), GAP);
-    beyond(28, "seeds, crop", 2, (x, i) -> x.seeds(0, i, 0), GAP);
-    fixed(28, "seeds, what", 2, (x, i) -> x.seeds(1, 0, i), GAP);
-    fixed(28, "seeds, what", 2, (x, i) -> x.seeds(0, 0, i), GAP);
+    Edge.beyond(28, "seeds, court", 1, (x, i) -> x.seeds(i, 0, 0), GAP);
+    Edge.beyond(28, "seeds, crop", 2, (x, i) -> x.seeds(0, i, 0), GAP);
+    Edge.from(2, 28, "seeds, what", (x, i) -> x.seeds(1, 0, i), GAP);
+    Edge.from(2, 28, "seeds, what", (x, i) -> x.seeds(0, 0, i), GAP);
     Edge.Made made = () -> Due.told("court a gold 0;court b gold 0;crop n price 3;crop m price 3;place p of a yield 4 grows n;place q of a yield 2;place r of b yield 9;place s of b yield 1 grows m;");
     Edge.due(28, "the place", made.make().seeds(0, 0, 0), 1);
     Edge.due(28, "how much more", made.make().seeds(0, 0, 1), 4);
@@ -650,9 +635,9 @@ public final class EdgeBargainTest {
 
   private static void leakAsked() {
     Edge.sentence("LEAK; GAP if the PLACE grows a CROP, or one can't be.");
-    beyond(29, "leak, crop", 2, (x, i) -> x.leak(i, 2), GAP);
-    beyond(29, "leak, place", 0, (x, i) -> x.leak(0, i), GAP);
-    for (Edge.Made made : ALL) {
+    Edge.beyond(29, "leak, crop", 2, (x, i) -> x.leak(i, 2), GAP);
+    Edge.beyond(29, "leak, place", 0, (x, i) -> x.leak(0, i), GAP);
+    for (Edge.Made made : Edge.ALL) {
       SpiceSwaps x = made.make();
       for (int k = 0; k < x.about(2); k++) {
         for (int p = 0; p < x.about(0); p++) {
@@ -682,9 +667,9 @@ public final class EdgeBargainTest {
 
   private static void willYears() {
     Edge.sentence("WILL (n 0 .. 60); GAP if one can't be.");
-    beyond(30, "will, court", 1, (x, i) -> x.will(i, 0), GAP);
-    beyond(30, "will, court", 1, (x, i) -> x.will(i, 60), GAP);
-    fixed(30, "will, years", 61, (x, i) -> x.will(0, i), GAP);
+    Edge.beyond(30, "will, court", 1, (x, i) -> x.will(i, 0), GAP);
+    Edge.beyond(30, "will, court", 1, (x, i) -> x.will(i, 60), GAP);
+    Edge.from(61, 30, "will, years", (x, i) -> x.will(0, i), GAP);
     SpiceSwaps x = Due.told("court a gold 7;place p of a yield 2 garrison 1;");
     for (int n : new int[] {0, 1, 2, 59, 60}) Edge.due(30, "will(0, " + n + ")", x.will(0, n), 7 + n);
     for (Edge.Made made : new Edge.Made[] {Edge::busy, Edge::full}) {
@@ -699,7 +684,7 @@ public final class EdgeBargainTest {
 
   private static void ruinYears() {
     Edge.sentence("RUIN (0: it is now; 60 at most); NONE if it is not, or there is none such.");
-    beyond(31, "ruin", 1, (x, i) -> x.ruin(i), NONE);
+    Edge.beyond(31, "ruin", 1, (x, i) -> x.ruin(i), NONE);
     for (int gold : new int[] {0, 1, 58, 59}) {
       Edge.due(31, "gold " + gold, Due.told("court a gold " + gold + ";place p of a yield 0 garrison 1;").ruin(0), gold + 1);
     }
@@ -718,8 +703,8 @@ public final class EdgeBargainTest {
 
   private static void grownYears() {
     Edge.sentence("A PLACE's yield behind n YEARS (0 .. 60); NONE if one can't be.");
-    beyond(32, "grown, place", 0, (x, i) -> x.grown(i, 0), NONE);
-    fixed(32, "grown, years", 61, (x, i) -> x.grown(0, i), NONE);
+    Edge.beyond(32, "grown, place", 0, (x, i) -> x.grown(i, 0), NONE);
+    Edge.from(61, 32, "grown, years", (x, i) -> x.grown(0, i), NONE);
     SpiceSwaps x = Due.told("court a gold 7;place p of a yield 2;place q of a yield 98;grow 1;");
     for (int n : new int[] {0, 1, 2, 59, 60}) Edge.due(32, "grown(0, " + n + ")", x.grown(0, n), 2 + n);
     for (int n : new int[] {0, 1, 2, 60}) Edge.due(32, "grown(1, " + n + ")", x.grown(1, n), Math.min(99, 98 + n));
@@ -727,7 +712,7 @@ public final class EdgeBargainTest {
 
   private static void richestYears() {
     Edge.sentence("The COURT of most gold behind n YEARS (0 .. 60); of like ones the first; NONE for another n, or without COURTS.");
-    fixed(33, "richest", 61, (x, i) -> x.richest(i), NONE);
+    Edge.from(61, 33, "richest", (x, i) -> x.richest(i), NONE);
     for (int n : new int[] {0, 1, 60}) {
       int years = n;
       Edge.refused(33, "richest(" + n + ") without courts", Edge::empty, x -> x.richest(years), NONE);
@@ -748,9 +733,9 @@ public final class EdgeBargainTest {
 
   private static void oddsAsked() {
     Edge.sentence("ODDS (n 0 .. 3) the upper part (0), the lower part (1), in lowest terms (0 of 1); NONE without PLACES, or if one can't be.");
-    fixed(34, "odds, years", 4, (x, i) -> x.odds(i, 0), NONE);
-    fixed(34, "odds, part", 2, (x, i) -> x.odds(1, i), NONE);
-    fixed(34, "odds, part of 0 years", 2, (x, i) -> x.odds(0, i), NONE);
+    Edge.from(4, 34, "odds, years", (x, i) -> x.odds(i, 0), NONE);
+    Edge.from(2, 34, "odds, part", (x, i) -> x.odds(1, i), NONE);
+    Edge.from(2, 34, "odds, part of 0 years", (x, i) -> x.odds(0, i), NONE);
     for (int n = 0; n <= 3; n++) {
       for (int p = 0; p < 2; p++) {
         int years = n;

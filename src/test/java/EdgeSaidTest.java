@@ -1,10 +1,7 @@
 /** ==== 4.: every sentence on what lies there, what is SAID, times, images and about that names a boundary case (promises 35 to 46). */
 public final class EdgeSaidTest {
   private static final int NONE = Edge.NONE;
-  private static final Edge.Made[] ALL = {Edge::empty, Edge::busy, Edge::full, Edge::faulted};
   private static final String TWO = "court a gold 0;court b gold 0;";
-
-  private interface IndexedCall { long on(SpiceSwaps x, int i); }
 
   public static void main(String[] args) {
     liesAsked();
@@ -31,27 +28,15 @@ public final class EdgeSaidTest {
     aboutAsked();
     aboutEach();
     constants();
-    Due.end("EdgeSaidTest");
-  }
-
-  private static void fixed(int promise, String what, int count, IndexedCall call, long answer) {
-    for (Edge.Made made : ALL) {
-      for (int i : Edge.beyond(count)) Edge.refused(promise, what + " of " + i, made, x -> call.on(x, i), answer);
-    }
-  }
-
-  private static void beyond(int promise, String what, int sort, IndexedCall call, long answer) {
-    for (Edge.Made made : ALL) {
-      for (int i : Edge.beyond(made.make().about(sort))) Edge.refused(promise, what + " of " + i, made, x -> call.on(x, i), answer);
-    }
+    Edge.end("EdgeSaidTest", 35, 46);
   }
 
   // ---- what lies there
 
   private static void liesAsked() {
     Edge.sentence("The i-th number of what lies there; -2 if there is none such.");
-    for (Edge.Made made : ALL) {
-      for (int i : Edge.beyond(made.make().about(12))) Edge.refused(35, "lies(" + i + ")", made, x -> x.lies(i), -2);
+    for (Edge.Made made : Edge.ALL) {
+      for (int i : Edge.outside(made.make().about(12))) Edge.refused(35, "lies(" + i + ")", made, x -> x.lies(i), -2);
     }
     SpiceSwaps x = new SpiceSwaps();
     Edge.due(35, "lies(0) at first", x.lies(0), -2);
@@ -96,8 +81,8 @@ public final class EdgeSaidTest {
 
   private static void yieldsTold() {
     Edge.sentence("That its yield is so much (0 .. 99) at least, or is not: its number; NONE, doing nothing, if one can't be, or there are 30.");
-    fixed(36, "yields", 100, (x, i) -> x.yields(i, true), NONE);
-    fixed(36, "yields, not", 100, (x, i) -> x.yields(i, false), NONE);
+    Edge.from(100, 36, "yields", (x, i) -> x.yields(i, true), NONE);
+    Edge.from(100, 36, "yields, not", (x, i) -> x.yields(i, false), NONE);
     int[][] rows = {{0, 15}, {1, 14}, {50, 14}, {51, 12}, {98, 12}, {99, 8}};
     for (int[] row : rows) {
       SpiceSwaps x = Due.told(PLACES);
@@ -122,8 +107,8 @@ public final class EdgeSaidTest {
 
   private static void holdsTold() {
     Edge.sentence("That a COURT holds it, or does not: its number; NONE, doing nothing, if one can't be, or there are 30.");
-    beyond(38, "holds", 1, (x, i) -> x.holds(i, true), NONE);
-    beyond(38, "holds, not", 1, (x, i) -> x.holds(i, false), NONE);
+    Edge.beyond(38, "holds", 1, (x, i) -> x.holds(i, true), NONE);
+    Edge.beyond(38, "holds, not", 1, (x, i) -> x.holds(i, false), NONE);
     int[] due = {5, 10};
     for (int c = 0; c < 2; c++) {
       SpiceSwaps x = Due.told(PLACES);
@@ -138,8 +123,8 @@ public final class EdgeSaidTest {
 
   private static void growsTold() {
     Edge.sentence("That it grows a CROP, or does not: its number; NONE likewise.");
-    beyond(39, "grows", 2, (x, i) -> x.grows(i, true), NONE);
-    beyond(39, "grows, not", 2, (x, i) -> x.grows(i, false), NONE);
+    Edge.beyond(39, "grows", 2, (x, i) -> x.grows(i, true), NONE);
+    Edge.beyond(39, "grows, not", 2, (x, i) -> x.grows(i, false), NONE);
     int[] due = {1, 4};
     for (int k = 0; k < 2; k++) {
       SpiceSwaps x = Due.told(PLACES);
@@ -154,7 +139,7 @@ public final class EdgeSaidTest {
 
   private static void thirtyAtMost() {
     Edge.sentence("SAID, 30 at most, is TOLD at a TIME");
-    Edge.Call[] tells = {x -> x.yields(0, true), x -> x.harbours(true), x -> x.holds(0, false), x -> x.grows(0, true)};
+    Edge.Call[] tells = {x -> x.yields(0, true), x -> x.harbours(true), x -> x.holds(1, false), x -> x.grows(1, false)};
     for (int sort = 0; sort < 4; sort++) {
       Edge.Call last = tells[sort];
       Edge.Made thirty = () -> {
@@ -190,7 +175,7 @@ public final class EdgeSaidTest {
 
   private static void untold() {
     Edge.sentence("It is UNTOLD: true; false if it is so already, or there is none such.");
-    beyond(40, "untell", 8, (x, i) -> Edge.bit(x.untell(i)), 0);
+    Edge.beyond(40, "untell", 8, (x, i) -> Edge.bit(x.untell(i)), 0);
     Edge.refused(40, "untell of what is untold", Edge::busy, x -> Edge.bit(x.untell(0)), 0);
     Edge.Made laterOn = () -> {
       SpiceSwaps x = Edge.busy();
@@ -212,7 +197,7 @@ public final class EdgeSaidTest {
 
   private static void laterBy() {
     Edge.sentence("So much later (0 .. 1000): the TIME; NONE, doing nothing, for another number, or if it would be above 100,000.");
-    fixed(41, "later", 1001, (x, i) -> x.later(i), NONE);
+    Edge.from(1001, 41, "later", (x, i) -> x.later(i), NONE);
     SpiceSwaps x = new SpiceSwaps();
     Edge.due(46, "0 at first", x.about(9), 0);
     Edge.due(41, "later(0)", x.later(0), 0);
@@ -268,7 +253,7 @@ public final class EdgeSaidTest {
     Edge.due(42, "told at 0, known at 0", first.fits(0), 9);
     Edge.due(42, "told at 0, known at -1", first.fits(-1), 15);
     for (int k : new int[] {Edge.LOW, -1, 0, 1, Edge.HIGH}) {
-      for (Edge.Made made : ALL) {
+      for (Edge.Made made : Edge.ALL) {
         Edge.changesOnly(42, "fits(" + k + ")", made, y -> y.fits(k));
         Edge.changesOnly(43, "ask(0, " + k + ")", made, y -> y.ask(0, k));
       }
@@ -333,8 +318,8 @@ public final class EdgeSaidTest {
 
   private static void askedOf() {
     Edge.sentence("ASK what 0: which (0 .. 2), 1: how many are left at the most; NONE if none FITS, or for another what.");
-    fixed(43, "ask", 2, (x, i) -> x.ask(i, 0), NONE);
-    fixed(43, "ask", 2, (x, i) -> x.ask(i, 7), NONE);
+    Edge.from(2, 43, "ask", (x, i) -> x.ask(i, 0), NONE);
+    Edge.from(2, 43, "ask", (x, i) -> x.ask(i, 7), NONE);
     Edge.refused(43, "ask of no places", Edge::empty, x -> x.ask(0, 0), NONE);
     Edge.refused(43, "ask of no places", Edge::empty, x -> x.ask(1, 0), NONE);
     Edge.Made none = () -> {
@@ -407,7 +392,7 @@ public final class EdgeSaidTest {
 
   private static void imageBoxes() {
     Edge.sentence("are kept in a BOX 0 .. 2: the year; NONE if there is none such.");
-    fixed(44, "image", 3, (x, i) -> x.image(i), NONE);
+    Edge.from(3, 44, "image", (x, i) -> x.image(i), NONE);
     for (int box = 0; box < 3; box++) {
       SpiceSwaps x = Due.told(PLACES);
       x.year();
@@ -425,12 +410,12 @@ public final class EdgeSaidTest {
     Edge.due(45, "kept anew", x.back(0), 2);
     Edge.due(45, "another box stays", x.back(1), 1);
     // Keeping changes nothing but the box.
-    for (Edge.Made made : ALL) Edge.changesOnly(44, "image(1)", made, y -> y.image(1), "back(1)", "behind back(1)");
+    for (Edge.Made made : Edge.ALL) Edge.changesOnly(44, "image(1)", made, y -> y.image(1), "back(1)", "behind back(1)");
   }
 
   private static void backToNothing() {
     Edge.sentence("All is as it was kept (no ACTS are kept then): the year; NONE, doing nothing, if nothing was.");
-    fixed(45, "back", 3, (x, i) -> x.back(i), NONE);
+    Edge.from(3, 45, "back", (x, i) -> x.back(i), NONE);
     Edge.refused(45, "back to an empty box", Edge::busy, x -> x.back(1), NONE);
     for (int box = 0; box < 3; box++) {
       int b = box;
@@ -517,8 +502,8 @@ public final class EdgeSaidTest {
 
   private static void aboutAsked() {
     Edge.sentence("12: numbers that lie there. NONE for another what.");
-    fixed(46, "about", 13, (x, i) -> x.about(i), NONE);
-    for (Edge.Made made : ALL) {
+    Edge.from(13, 46, "about", (x, i) -> x.about(i), NONE);
+    for (Edge.Made made : Edge.ALL) {
       for (int what = 0; what < 13; what++) {
         int w = what;
         Edge.changesOnly(46, "about(" + w + ")", made, x -> x.about(w));

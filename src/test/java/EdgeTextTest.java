@@ -40,7 +40,7 @@ public final class EdgeTextTest {
     leastAtOnePlace();
     sorts();
     theEnd();
-    Due.end("EdgeTextTest");
+    Edge.end("EdgeTextTest", 1, 5);
   }
 
   private static void fault(String text, int code, int place) {
@@ -256,8 +256,8 @@ public final class EdgeTextTest {
 
   private static void faultsAsked() {
     Edge.sentence("Of the latest world() what 0: its FAULT (0), 1: its place (NONE). NONE for another what.");
-    for (Edge.Made made : new Edge.Made[] {Edge::empty, Edge::busy, Edge::full, Edge::faulted}) {
-      for (int what : Edge.beyond(2)) Edge.refused(5, "fault(" + what + ")", made, x -> x.fault(what), NONE);
+    for (Edge.Made made : Edge.ALL) {
+      for (int what : Edge.outside(2)) Edge.refused(5, "fault(" + what + ")", made, x -> x.fault(what), NONE);
     }
     SpiceSwaps x = new SpiceSwaps();
     Edge.due(5, "fault(0) ahead of any world()", x.fault(0), 0);
